@@ -13,6 +13,7 @@ public final class BlindSpots {
     private static final int LAST_HOUR = 9999;
     private static final int MOST_COINS = 999;
     private static final int MOST_GIFT = 50;
+    private static final int MOST_SHARED = 999;
     private static final int NINE = 9;
     private static final int HEAP_COST = 1;
     private static final int MAST_COST = 2;
@@ -575,7 +576,7 @@ public final class BlindSpots {
     }
 
     public int shares(int tower, int c) {
-        if (!now.hasTower(tower) || c < 0 || c > MOST_COINS) {
+        if (!now.hasTower(tower) || c < 0 || c > MOST_SHARED) {
             return NONE;
         }
         int its = Integer.bitCount(now.sight(tower, ruling()));
