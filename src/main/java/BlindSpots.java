@@ -50,8 +50,6 @@ public final class BlindSpots {
     private final Hearsay hearsay = new Hearsay();
     private final Paths paths = new Paths();
     private final Duel duel = new Duel();
-    private final long[] parts = new long[NINE + 1];
-    private final long[] nextParts = new long[NINE + 1];
     private long drawn = 0;
 
     public BlindSpots() {
@@ -548,31 +546,31 @@ public final class BlindSpots {
                 || chance < 0 || chance > WHOLE_CHANCE) {
             return NONE;
         }
-        Arrays.fill(parts, 0L);
-        parts[within(now.fog, 0, NINE)] = ALL_PARTS;
-        for (int k = 0; k < n; k++) {
-            spreadFog(chance);
-        }
-        trial.become(now);
-        trial.hour = now.hour + n;
-        long hid = 0;
-        for (int fog = 0; fog <= NINE; fog++) {
-            trial.fog = fog;
-            if (parts[fog] > 0 && !trial.isSeen(cell, ruling())) {
-                hid += parts[fog];
-            }
-        }
-        return (int) hid;
+        return (int) partsHid(ALL_PARTS, now.fog, n, chance, fogsThatHide(cell, n));
     }
 
-    private void spreadFog(int chance) {
-        Arrays.fill(nextParts, 0L);
-        for (int fog = 0; fog <= NINE; fog++) {
-            long higher = parts[fog] * chance / WHOLE_CHANCE;
-            nextParts[Math.min(NINE, fog + 1)] += higher;
-            nextParts[Math.max(0, fog - 1)] += parts[fog] - higher;
+    /** FOGS (bits) by which the CELL is HID n HOURS from now; n HOURS lead to no others than these looked at. */
+    private int fogsThatHide(int cell, int n) {
+        trial.become(now);
+        trial.hour = now.hour + n;
+        int found = 0;
+        for (int fog = Math.max(0, now.fog - n); fog <= Math.min(NINE, now.fog + n); fog++) {
+            trial.fog = fog;
+            if (!trial.isSeen(cell, ruling())) {
+                found |= 1 << fog;
+            }
         }
-        System.arraycopy(nextParts, 0, parts, 0, NINE + 1);
+        return found;
+    }
+
+    /** Each part is cut by itself, also where another one has come to the same FOG: joined they would cut otherwise. */
+    private static long partsHid(long part, int fog, int hoursLeft, int chance, int hiding) {
+        if (hoursLeft <= 0 || hoursLeft > ODDS_HOURS || part <= 0) {
+            return (hiding >> fog & 1) == 1 ? part : 0;
+        }
+        long higher = part * chance / WHOLE_CHANCE;
+        return partsHid(higher, Math.min(NINE, fog + 1), hoursLeft - 1, chance, hiding)
+                + partsHid(part - higher, Math.max(0, fog - 1), hoursLeft - 1, chance, hiding);
     }
 
     public int shares(int tower, int c) {

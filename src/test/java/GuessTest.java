@@ -10,6 +10,7 @@ public final class GuessTest {
         games();
         rests();
         odds();
+        oddsCutEachPart();
         oddsByHours();
         shares();
         most();
@@ -212,9 +213,7 @@ public final class GuessTest {
         int[][] due = {{3, 3, 100, all}, {3, 2, 100, 0}, {0, 0, 50, all}, {1, 0, 50, 0}, {0, 1, 0, 0}, {0, 8, 0, 0},
             {0, 1, 50, 500000000}, {0, 2, 50, 750000000}, {1, 1, 30, 300000000}, {5, 8, 100, all},
             {5, 5, 33, 3913539}, {5, 6, 33, 1291467}, {5, 4, 33, 0}, {4, 4, 33, 11859210}, {2, 2, 25, 62500000}};
-        for (int[] row : due) {
-            checks.due("36: odds(" + row[0] + ", " + row[1] + ", " + row[2] + ")", x.odds(row[0], row[1], row[2]), row[3]);
-        }
+        dueOdds(x, due);
         checks.due("36: FOG is as it was", x.rule(3), 1);
         BlindSpots high = Texts.land("sf9;r98;tm9");
         checks.due("36: FOG 9 at most", high.odds(0, 8, 100), 0);
@@ -226,6 +225,21 @@ public final class GuessTest {
         for (int k = 0; k < wrong.length; k++) {
             checks.due("36: wrong input " + k, wrong[k], -1);
         }
+    }
+
+    private static void dueOdds(BlindSpots x, int[][] due) {
+        for (int[] row : due) {
+            String call = "36: odds(" + row[0] + ", " + row[1] + ", " + row[2] + ")";
+            checks.due(call, x.odds(row[0], row[1], row[2]), row[3]);
+        }
+    }
+
+    /** Joining the parts that have come to the same FOG would answer some more in each of these rows. */
+    private static void oddsCutEachPart() {
+        dueOdds(steps(), new int[][] {{0, 6, 37, 559783491}, {0, 7, 37, 519886746}, {0, 8, 1, 10101083},
+            {0, 8, 99, 999999951}, {1, 8, 37, 262190408}, {2, 7, 63, 547182951}, {3, 8, 51, 194425097},
+            {0, 8, 7, 75498284}, {4, 8, 77, 730874999}, {5, 8, 77, 429891990}});
+        dueOdds(Texts.land("tx1y1"), new int[][] {{0, 5, 1, 10100956}, {0, 4, 1, 10099000}, {0, 8, 1, 10100956}});
     }
 
     private static void oddsByHours() {

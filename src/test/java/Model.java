@@ -2,9 +2,7 @@ import java.util.ArrayDeque;
 import java.util.ArrayList;
 import java.util.Deque;
 import java.util.List;
-import java.util.Map;
 import java.util.NoSuchElementException;
-import java.util.TreeMap;
 
 /** The document told a second time, as plainly as can be, to hold the class against. */
 final class Model {
@@ -565,23 +563,18 @@ final class Model {
         if (!cell(c) || n < 0 || n > 8 || chance < 0 || chance > 100) {
             return NONE;
         }
-        Map<Integer, Long> parts = new TreeMap<>();
-        parts.put(now.fog, 1000000000L);
-        for (int k = 0; k < n; k++) {
-            Map<Integer, Long> next = new TreeMap<>();
-            for (Map.Entry<Integer, Long> part : parts.entrySet()) {
-                long up = part.getValue() * chance / 100;
-                next.merge(Math.min(9, part.getKey() + 1), up, Long::sum);
-                next.merge(Math.max(0, part.getKey() - 1), part.getValue() - up, Long::sum);
-            }
-            parts = next;
-        }
+        // Every way of rises and falls, told by the bits of a number, is a part of its own.
         long hid = 0;
-        for (Map.Entry<Integer, Long> part : parts.entrySet()) {
+        for (int way = 0; way < 1 << n; way++) {
             ModelLand land = now.copy();
-            land.fog = part.getKey();
-            land.hour += n;
-            hid += land.hid(c, ruling()) ? part.getValue() : 0;
+            long part = 1000000000L;
+            for (int k = 0; k < n; k++) {
+                boolean up = (way >> k) % 2 == 1;
+                part = up ? part * chance / 100 : part - part * chance / 100;
+                land.fog = up ? Math.min(9, land.fog + 1) : Math.max(0, land.fog - 1);
+                land.hour++;
+            }
+            hid += part > 0 && land.hid(c, ruling()) ? part : 0;
         }
         return (int) hid;
     }
