@@ -366,7 +366,8 @@ public final class EdgeActTest {
     }
 
     private static void yearsGoRound() {
-        long[] seeds = {0, 1, -1, Long.MAX_VALUE, Long.MIN_VALUE, Long.MAX_VALUE - 1, 1L << 33, -1L << 33, 1442695040888963407L};
+        long[] seeds = {0, 1, -1, Long.MAX_VALUE, Long.MIN_VALUE, Long.MAX_VALUE - 1, 1L << 33, -1L << 33,
+            1442695040888963407L};
         for (long seed : seeds) {
             BlindSpots x = land("sw6h5f3;r555555;r555555;r555555;r555555;r555555;t");
             x.years(20, seed);

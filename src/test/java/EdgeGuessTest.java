@@ -15,6 +15,7 @@ public final class EdgeGuessTest {
         falseTowers();
         gameBounds();
         gameMasts();
+        gameNow();
         rests();
         oddsBounds();
         oddsOfFog();
@@ -260,6 +261,22 @@ public final class EdgeGuessTest {
         }
     }
 
+    private static void gameNow() {
+        BlindSpots x = land("sw6h2f3;r3;t;tx5y1");
+        Texts.law(x, "y:l=9?h");
+        edges.due(34, "as it is now: FOG", x.game(0, 1, 0, 0, 0), 1);
+        x.fog(0);
+        edges.due(34, "as it is now: the HOUR 0", x.game(0, 1, 0, 0, 0), 1);
+        x.hours(1);
+        edges.due(34, "as it is now: the HOUR 1", x.game(0, 1, 0, 0, 0), 4);
+        x.moves(0, 1);
+        edges.due(34, "as it is now: where TOWERS are", x.game(0, 1, 0, 0, 0), 6);
+        x.moves(1, 7);
+        edges.due(34, "as it is now: where TOWERS are", x.game(0, 1, 0, 0, 0), 0);
+        x.hours(23);
+        edges.due(34, "as it is now: the HOUR modulo 24", x.game(0, 1, 0, 0, 0), 1);
+    }
+
     private static void rests() {
         BlindSpots x = land("sw2h2;tl0;tx1l0");
         edges.due(35, "raising is of no use: how many (i NONE)", x.rests(0, 1, NONE), 1);
@@ -323,6 +340,9 @@ public final class EdgeGuessTest {
         odds("a chance 0 .. 100: 99", "sf1;r1;t", 0, 1, 99, 990000000);
         odds("a chance 0 .. 100: all", "sf1;r1;t", 0, 1, 100, ALL_PARTS);
         odds("the last CELL", "sw2h2f1;r11;r10;t", 3, 0, 0, ALL_PARTS);
+        odds("HID, out of REACH", "sw2h2;tx1y1l0", 0, 0, 0, ALL_PARTS);
+        odds("seen by the last of four", "sw2h2;tl0;tl0;tl0;tx1y1l0", 3, 0, 0, 0);
+        odds("HID from all four", "sw2h2;tl0;tl0;tl0;tx1l0", 3, 8, 50, ALL_PARTS);
         BlindSpots late = land("sw2h2;tl9");
         for (int k = 0; k < 166; k++) {
             late.hours(60);
@@ -363,6 +383,8 @@ public final class EdgeGuessTest {
         odds("cut: higher each time", "r5;t", 0, 6, 33, 1291467);
         // what is left goes lower: 330,000,000, 108,900,000, 35,937,000, 11,859,210, 3,913,540, 1,291,469 come to FOG 0
         odds("cut: the rest goes lower", "sf6;t", 0, 6, 67, ALL_PARTS - 1291469);
+        // by 99 of 100 lower each time: 10,000,000, 100,000, 1,000, 10, 1 (of which none is higher), 1
+        odds("cut: a part of one goes lower", "sf9;r3;t", 0, 6, 99, ALL_PARTS - 1);
         odds("each part by itself", "tx1y1", 0, 5, 1, 10100956);
     }
 

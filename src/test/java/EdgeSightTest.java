@@ -340,6 +340,9 @@ public final class EdgeSightTest {
         BlindSpots four = land("sw2h2;tl0;tl0;tl0;tl0");
         edges.due(28, "one more than four", four.site(0, 0, 0), 1);
         edges.due(28, "one more than four", four.site(0, 0, 1), 2);
+        edges.due(28, "the last of thirty CELLS",
+                land("sw6h5f1;r;r;r;r;r000001;tl0").site(9, 0, 0), 29);
+        edges.due(28, "the greatest LAND", land("sw6h5f9;r999999;t").site(9, 9, 1), 24);
         BlindSpots hill = land("sw3h2;r010;r010;tl0");
         edges.due(28, "EYE: MAST none", hill.site(0, 9, 0), 1);
         edges.due(28, "EYE: MAST one, still behind the hill", hill.site(1, 9, 0), 1);

@@ -43,9 +43,12 @@ public final class EdgeTextTest {
         edges.end();
     }
 
-    /** The FAULT is there, and text(0) takes the LAND or refuses it by that. */
+    /** The FAULT is there, also behind a longer text, and text(0) takes the LAND or refuses it by that. */
     private static void land(String sentence, String text, int fault) {
-        edges.due(4, sentence + ": " + text, Texts.fault(new BlindSpots(), 0, text), fault);
+        BlindSpots reader = new BlindSpots();
+        edges.due(4, sentence + ": " + text, Texts.fault(reader, 0, text), fault);
+        Texts.fault(reader, 0, "sw6h5k9f9;r999999;r;r;r;r;tx5y4m0l0;t;t;tz");
+        edges.due(4, sentence + ", read behind another text: " + text, Texts.fault(reader, 0, text), fault);
         if (fault == NONE) {
             BlindSpots x = Texts.land(text);
             edges.yes(5, sentence + ": is a LAND: " + text, x.count(0) >= 4 && x.count(3) == 0);
@@ -56,7 +59,10 @@ public final class EdgeTextTest {
     }
 
     private static void law(String sentence, String text, int fault) {
-        edges.due(4, sentence + ": " + text, Texts.fault(new BlindSpots(), 1, text), fault);
+        BlindSpots reader = new BlindSpots();
+        edges.due(4, sentence + ": " + text, Texts.fault(reader, 1, text), fault);
+        Texts.fault(reader, 1, "y:!(!([[1=");
+        edges.due(4, sentence + ", read behind another text: " + text, Texts.fault(reader, 1, text), fault);
         if (fault == NONE) {
             edges.due(5, sentence + ": is a LAW: " + text, fedOver("t", text).text(1), 0);
         } else {
@@ -114,10 +120,15 @@ public final class EdgeTextTest {
         edges.due(2, "bytes of 0 are left out: all, a full TAPE", fed(signs(240)).feed(0, 0, 0, 0, 0), 240);
         edges.due(2, "bytes of 0 are left out: nineteen up to 240",
                 fed(signs(221)).feed(0x00FFFFFF, -1, -1, -1, -1), 240);
-        int[] places = {24, 16, 8, 0};
-        for (int shift : places) {
-            edges.due(2, "a byte by itself, " + shift, new BlindSpots().feed('t' << shift, 0, 0, 0, 0), 1);
-            edges.due(2, "a byte by itself in the last, " + shift, new BlindSpots().feed(0, 0, 0, 0, 128 << shift), 1);
+        for (int sign : new int[] {1, 127, 128, 255}) {
+            for (int place = 0; place < 20; place++) {
+                int[] w = new int[5];
+                w[place / 4] = sign << 24 - 8 * (place % 4);
+                edges.due(2, "a byte by itself, " + sign + " at " + place,
+                        fed(signs(239)).feed(w[0], w[1], w[2], w[3], w[4]), 240);
+                edges.due(2, "a byte by itself beyond 240, " + sign + " at " + place,
+                        fed(signs(240)).feed(w[0], w[1], w[2], w[3], w[4]), NONE);
+            }
         }
         BlindSpots x = new BlindSpots();
         edges.due(2, "the highest first", x.feed(0x74007800, 0x00320079, 0, 0x31006D00, 0x37), 7);
@@ -546,6 +557,19 @@ public final class EdgeTextTest {
         holds("< alike", "l<7", false);
         holds("> more", "l>6", true);
         holds("> alike", "l>7", false);
+        String[] units = {"1=1", "1<2", "2>1", "1=2", "2<1", "1>2"};
+        for (int one = 0; one < units.length; one++) {
+            holds("a UNIT", units[one], one < 3);
+            holds("! UNIT", "!" + units[one], one >= 3);
+            holds("! ! UNIT", "!!" + units[one], one < 3);
+            holds("( CONDITION )", "(" + units[one] + ")", one < 3);
+            for (int other = 0; other < units.length; other++) {
+                holds("UNITS with &", units[one] + "&" + units[other], one < 3 && other < 3);
+                holds("TRUTHS with |", units[one] + "|" + units[other], one < 3 || other < 3);
+                holds("! of &", "!(" + units[one] + "&" + units[other] + ")", one >= 3 || other >= 3);
+                holds("! of |", "!(" + units[one] + "|" + units[other] + ")", one >= 3 && other >= 3);
+            }
+        }
         holds("& ahead of |", "1=1|1=2&1=2", true);
         holds("& ahead of |", "1=2&1=2|1=1", true);
         holds("( ahead of &", "(1=1|1=2)&1=2", false);
@@ -726,6 +750,15 @@ public final class EdgeTextTest {
                 (y, what) -> Edges.tower(y, 0, what), Edges.outside(0, 5), Edges.THROWN, Edges.NO_STATUS);
         edges.due(8, "the fourth TOWER", Edges.tower(Texts.land("t;t;t;tx3"), 3, 0), 3);
         edges.due(8, "no such ones: a fifth TOWER", Edges.tower(Texts.land("t;t;t;t"), 4, 0), Edges.THROWN);
+        BlindSpots broken = Texts.land("t;t;t;t");
+        for (int tower = 0; tower < 4; tower++) {
+            edges.due(8, "whether its oath is BROKEN: 0", Edges.tower(broken, tower, 4), 0);
+            broken.oath(tower);
+            edges.due(8, "whether its oath is BROKEN: 1", Edges.tower(broken, tower, 4), 1);
+        }
+        broken.oath(2);
+        edges.due(8, "whether its oath is BROKEN: kept again", Edges.tower(broken, 2, 4), 0);
+        edges.due(8, "whether its oath is BROKEN: the next one's still is", Edges.tower(broken, 3, 4), 1);
         edges.due(8, "how many CELLS: none", Edges.tower(Texts.land("sf1;t"), 0, 5), 0);
         edges.due(8, "how many CELLS: all of the greatest LAND", Edges.tower(Texts.land("sw6h5;t"), 0, 5), 30);
     }
